@@ -108,6 +108,14 @@ final class MemberFaultsTest {
         kind.member(1, 0, 0, FINAL, PUBLIC, 0);
         kind.member(2, 0, 0, 0, PUBLIC, 0);
         Due.faults("a wrong kind above", kind, 2);
+        ClassRules late = new ClassRules();
+        late.type(CLASS, 0, 0, 1);
+        late.type(CLASS, 0, 0, -1);
+        late.member(0, 0, 0, 0, PUBLIC, 0);
+        late.member(1, 0, 0, FINAL, PUBLIC, 0);
+        Due.faults("member 0 over the last, type 0 below the last", late, 0, 12, 0);
+        late.permit(1, 19);
+        Due.faults("the last type told misses one", late, 0);
         ClassRules soft = new ClassRules();
         soft.type(CLASS, FINAL, 0, -1);
         soft.type(CLASS, 0, 0, 0);
@@ -337,6 +345,18 @@ final class MemberFaultsTest {
         r.member(0, 0, 0, DEFAULT, PUBLIC, 0);
         r.member(2, 0, 0, ABSTRACT, PUBLIC, 0);
         Due.faults("a face two steps below has such a one", r, 3, 16, 1);
+        ClassRules two = new ClassRules();
+        for (int n = 0; n < 4; n++) {
+            two.type(FACE, 0, 0, -1);
+            two.member(n, 0, 0, DEFAULT, PUBLIC, 0);
+        }
+        two.upper(2, 0);
+        two.upper(3, 1);
+        two.type(CLASS, 0, 0, -1);
+        two.upper(4, 0);
+        two.upper(4, 2);
+        two.upper(4, 3);
+        Due.faults("two faces, each with one above", two, 4, 17, 2);
         r.type(CLASS, 0, 0, -1);
         r.upper(4, 0);
         Due.faults("that face is not above this type", r, 4);

@@ -137,6 +137,9 @@ final class RunningTest {
         Due.same("the object is another one", r.call(2, 1, 0, 0), WRONG);
         Due.same("nothing is meant for the type", r.call(0, 1, 0, 0), NONE);
         Due.same("by itself", r.call(1, 1, 0, 0), 0);
+        r.member(0, 0, 0, 0, PUBLIC, 0);
+        Due.same("one told before takes the place", r.call(0, 1, 0, 0), 0);
+        Due.same("not on an object above", r.call(0, 0, 0, 0), 1);
     }
 
     private static void callPrivate() {

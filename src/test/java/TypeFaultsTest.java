@@ -192,6 +192,15 @@ final class TypeFaultsTest {
         r.type(CLASS, OPEN, 0, 4);
         Due.faults("the parent is sealed", r, 4);
         Due.faults("only the parent's parent is sealed", r, 5, 6, 5);
+        ClassRules late = new ClassRules();
+        late.type(CLASS, FINAL, 0, 1);
+        late.type(CLASS, SEALED, 0, -1);
+        Due.faults("the sealed one is the last told", late, 0, 6, 1);
+        late.permit(1, 0);
+        Due.faults("it permits one told before", late, 1);
+        late.type(CLASS, SEALED, 0, -1);
+        late.permit(2, 0);
+        Due.faults("which is not below another one", late, 2, 7, 0);
     }
 
     private static ClassRules sealedAndBelow(int kind, int marks, boolean permitted) {
@@ -284,6 +293,12 @@ final class TypeFaultsTest {
                 Due.same("is(" + type + ", " + other + ")", r.is(type, other), due[type][other]);
             }
         }
+        ClassRules middle = new ClassRules();
+        middle.type(CLASS, 0, 0, 2);
+        middle.type(CLASS, 0, 0, 0);
+        middle.type(CLASS, 0, 0, -1);
+        Due.same("by way of type 0", middle.is(1, 2), 1);
+        Due.same("not the other way", middle.is(2, 1), 0);
         r.type(CLASS, 0, 0, 6);
         Due.same("is one that is not there", r.is(5, 6), BAD);
         r.type(CLASS, 0, 0, 4);
