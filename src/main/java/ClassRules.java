@@ -241,7 +241,7 @@ public final class ClassRules {
             return parents[type] < count ? parents[type] : NOTHING;
         }
 
-        /** Whether a TYPE IS another one. */
+        /** Whether a TYPE IS another one. It stands at the end of eight calls, so it calls none itself. */
         boolean stands(int type, int other) {
             return type == other || (above[type] >> other & 1) != 0;
         }
