@@ -72,6 +72,11 @@ final class EdgeRunningTest extends Edges {
         run.member(0, 0, 0, 0, PRIVATE, 0).member(1, 0, 0, 0, PUBLIC, 0);
         run.due("nothing wrong", 0, "all").due("private in the FACE is not MEANT", NONE, "call", 0, 1, 0, 0);
         run.due("by the CLASS", 1, "call", 1, 1, 0, 0);
+        Run over = run().type(FACE, 0, 0, -1).type(FACE, 0, 0, -1).type(FACE, 0, 0, -1).type(CLASS, 0, 0, -1);
+        over.upper(2, 0).upper(3, 2).member(0, 0, 0, DEFAULT, PUBLIC, 0).member(2, 0, 0, 0, PRIVATE, 0);
+        over.due("private over a FACE ONE", 0, "all").due("the FACE ONE is MEANT, and runs", 0, "call", 2, 3, 0, 0);
+        over.member(1, 0, 0, DEFAULT, PUBLIC, 0).upper(2, 1).faults("private settles no rivals", 2, 17, 0);
+        over.member(2, 0, 0, DEFAULT, PUBLIC, 0).faults("one that is not private does", 2, 10, 3);
     }
 
     private static void faceOnesNotStaticNotPrivate() {
